@@ -13,6 +13,10 @@ public final class IceLaw {
     private static final int MOST_INCHES = 60;
     private static final int MOST_NIGHTS = 60;
     private static final int LAST_NIGHT = 9000;
+    private static final int MOST_SEEN = 6;
+    private static final int MOST_ENTRIES = 15;
+    private static final int MOST_UNDONE = 16;
+    private static final int MOST_LETTERS = 240;
     private static final int IMAGES = 2;
 
     private final Reader reader;
@@ -589,7 +593,7 @@ public final class IceLaw {
         private static final int AGAIN = 3;
         private static final int END = -1;
 
-        private final int[] text = new int[240];
+        private final int[] text = new int[MOST_LETTERS];
         private int at;
         int letters;
         int fault;
@@ -995,7 +999,7 @@ public final class IceLaw {
 
     /** The latest states that can come again, the oldest lost first. */
     private static final class Past {
-        private final Ice[] states = new Ice[16];
+        private final Ice[] states = new Ice[MOST_UNDONE];
         private int next;
         int count;
 
@@ -1055,11 +1059,16 @@ public final class IceLaw {
 
         /** Behind how many nights a cell first bears the weight, or first does not. */
         int firstNight(River river, Ice now, int c, int weight, boolean bears) {
+            int inches = now.inchesOf(c);
+            boolean snowy = now.isSnowy(c);
             for (int n = 0; n <= MOST_NIGHTS; n++) {
-                boolean isBorne = river.inchBears * inchesBehind(river, now, c, n) >= weight;
+                boolean isBorne = river.inchBears * inches >= weight;
                 if (isBorne == bears) {
                     return n;
                 }
+                int cold = river.coldOf(now.nights + n);
+                inches = river.inchesAfter(inches, c, cold, snowy);
+                snowy = snowy && cold > 0;
             }
             return NONE;
         }
@@ -1163,8 +1172,10 @@ public final class IceLaw {
 
     /** What is seen of an unknown set of persons, and which sets fit it. */
     private static final class Seen {
-        private final int[] inches = new int[6];
-        private final boolean[] broke = new boolean[6];
+        private final int[] inches = new int[MOST_SEEN];
+        private final boolean[] broke = new boolean[MOST_SEEN];
+        private final int[] fitting = new int[1 << MOST_PERSONS];
+        private final int[] weights = new int[1 << MOST_PERSONS];
         int count;
 
         boolean add(int t, boolean did) {
@@ -1177,8 +1188,21 @@ public final class IceLaw {
             return true;
         }
 
-        private boolean fits(River river, int set) {
-            int weight = river.weightOfAll(set);
+        /** Gathers the sets that fit, the least first, and what they weigh: how many. */
+        int howMany(River river) {
+            int many = 0;
+            for (int set = 0; set < 1 << river.persons; set++) {
+                int weight = river.weightOfAll(set);
+                if (fits(river, weight) && many < fitting.length && many < weights.length) {
+                    fitting[many] = set;
+                    weights[many] = weight;
+                    many++;
+                }
+            }
+            return many;
+        }
+
+        private boolean fits(River river, int weight) {
             for (int k = 0; k < count && k < inches.length && k < broke.length; k++) {
                 boolean breaks = weight > river.inchBears * inches[k];
                 if (breaks != broke[k]) {
@@ -1188,44 +1212,27 @@ public final class IceLaw {
             return true;
         }
 
-        int howMany(River river) {
-            int many = 0;
-            for (int set = 0; set < 1 << river.persons; set++) {
-                if (fits(river, set)) {
-                    many++;
-                }
-            }
-            return many;
-        }
-
         int least(River river) {
-            for (int set = 0; set < 1 << river.persons; set++) {
-                if (fits(river, set)) {
-                    return set;
-                }
-            }
-            return NONE;
+            return howMany(river) > 0 ? fitting[0] : NONE;
         }
 
+        /** The set of persons who are in all that fits. */
         int sure(River river) {
-            int all = (1 << river.persons) - 1;
-            int common = all;
-            boolean isAny = false;
-            for (int set = 0; set <= all; set++) {
-                if (fits(river, set)) {
-                    common &= set;
-                    isAny = true;
-                }
+            int many = howMany(river);
+            int common = many > 0 ? fitting[0] : 0;
+            for (int k = 1; k < many && k < fitting.length; k++) {
+                common &= fitting[k];
             }
-            return isAny ? common : 0;
+            return common;
         }
 
+        /** The inches that leave least of what fits alike, if they part it at all. */
         int bestQuestion(River river) {
             int many = howMany(river);
             int best = NONE;
             int bestPart = many;
             for (int t = 1; t <= MOST_INCHES; t++) {
-                int breaking = howManyBreak(river, t);
+                int breaking = howManyAbove(river.inchBears * t, many);
                 int part = Math.max(breaking, many - breaking);
                 if (part < bestPart) {
                     best = t;
@@ -1235,21 +1242,21 @@ public final class IceLaw {
             return best;
         }
 
-        private int howManyBreak(River river, int t) {
-            int many = 0;
-            for (int set = 0; set < 1 << river.persons; set++) {
-                if (river.weightOfAll(set) > river.inchBears * t && fits(river, set)) {
-                    many++;
+        private int howManyAbove(int most, int many) {
+            int above = 0;
+            for (int k = 0; k < many && k < weights.length; k++) {
+                if (weights[k] > most) {
+                    above++;
                 }
             }
-            return many;
+            return above;
         }
     }
 
     /** What a law-book tells of the ice. */
     private static final class Book {
-        private final int[] cells = new int[15];
-        private final int[] inches = new int[15];
+        private final int[] cells = new int[MOST_ENTRIES];
+        private final int[] inches = new int[MOST_ENTRIES];
         int count;
 
         boolean add(int c, int many) {
