@@ -458,14 +458,14 @@ public final class IceLaw {
 
     /** What the text tells: it stays as it is till the next text. */
     private static final class River {
-        private final int[] thick = new int[MOST_CELLS];
-        private final int[] currents = new int[MOST_COLUMNS];
-        private final int[] colds = new int[MOST_COLDS];
+        final int[] thick = new int[MOST_CELLS];
+        final int[] currents = new int[MOST_COLUMNS];
+        final int[] colds = new int[MOST_COLDS];
         private final int[] towns = new int[MOST_PERSONS];
         private final int[] weights = new int[MOST_PERSONS];
-        private int thicks;
-        private int currentCount;
-        private int coldCount;
+        int thicks;
+        int currentCount;
+        int coldCount;
         int columns;
         int rows;
         int inchBears;

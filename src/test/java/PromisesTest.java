@@ -77,6 +77,8 @@ public final class PromisesTest {
         }
         due("new: fault", law.fault(), NONE);
         due("new: seed", law.seed(0), 0);
+        due("new: no image", law.goBack(0), NOT);
+        due("new: no image", law.goBack(1), NOT);
         due("NONE", IceLaw.NONE, -1);
         due("UNKNOWN", IceLaw.UNKNOWN, -1000000001);
         due("OUTSIDE", IceLaw.OUTSIDE, -1000000002);
@@ -167,6 +169,8 @@ public final class PromisesTest {
         dueFault("r1", 2, 1);
         dueFault("r42 10;", 2, 1);
         dueFault("r0002 1 1;", 2, 1);
+        dueFault("r2 1 1;t0010;", 2, 8);
+        dueFault("r2 1 1;p0 0100;", 2, 10);
         dueFault("r 12345", 2, 2);
         dueFault("r99999999999999999999x", 2, 1);
         dueFault("r2 0 1;", 2, 3);
@@ -360,6 +364,9 @@ public final class PromisesTest {
         law.undo();
         due("9000 is not above", law.night(57), 9000);
         due("the last", law.night(60), 9060);
+        law.undo();
+        law.night(1);
+        due("9001 is above", law.night(1), FULL);
         due("no river, outside", new IceLaw().night(61), OUTSIDE);
         due("no river", new IceLaw().night(1), NOT);
     }
@@ -372,6 +379,15 @@ public final class PromisesTest {
         due("broke", law.told(11), 1);
         due("drowned", law.told(10), 1);
         due("the river stays nobody's", law.told(6), NONE);
+        IceLaw least = Check.on("r2 1 10;t8;c0,1;n11,10;");
+        least.snow(0, true);
+        due("the least cold", least.night(1), 1);
+        due("half of 1, cut", least.cell(0, 0), 8);
+        due("less the current", least.cell(1, 0), 8);
+        due("snow stays", least.told(8), 1);
+        due("no cold at all", least.night(1), 2);
+        due("snow goes at 0", least.told(8), 0);
+        due("current", least.cell(1, 0), 7);
         // Melted, not broken: 0 inches, and who is there drowns.
         IceLaw melted = Check.on("r3 1 30;t2,9,9;n8;p0 60;");
         melted.step(0, 0);
@@ -619,6 +635,11 @@ public final class PromisesTest {
         due("nobody there", law.then(0, 1), 4);
         due("nothing changes", law.told(5), 1);
         due("most", law.then(0, 60), 60);
+        IceLaw still = Check.on("r2 1 10;t8;n12,10;");
+        still.snow(0, true);
+        due("snow goes at 0: 9, 9, 11", still.then(0, 3), 11);
+        due("first behind 3", still.when(0, 110), 3);
+        due("snow stays at 1", Check.on("r2 1 10;t8;n11,12;").then(0, 2), 11);
         due("then(c, 61)", law.then(0, 61), OUTSIDE);
         due("then(c, -1)", law.then(0, -1), OUTSIDE);
         due("no cell", law.then(3, 61), UNKNOWN);
@@ -635,6 +656,10 @@ public final class PromisesTest {
         due("never", law.when(0, 391), NONE);
         law.snow(0, true);
         due("snow: 9, 8, 10", law.when(0, 100), 3);
+        due("the least weight", law.when(0, 1), 0);
+        IceLaw last = Check.on("r2 1 1;t0;n11;");
+        due("behind 60", last.when(0, 60), 60);
+        due("never", last.when(0, 61), NONE);
         due("when(c, 0)", law.when(0, 0), OUTSIDE);
         due("when(c, 1000)", law.when(0, 1000), OUTSIDE);
         due("when(c, 999)", law.when(0, 999), NONE);
@@ -653,6 +678,8 @@ public final class PromisesTest {
         due("behind the 58th", last.noMore(0, 11), 58);
         due("behind the 60th less one", last.noMore(0, 12), 55);
         due("not behind 60", last.noMore(0, 10), NONE);
+        due("behind 58", Check.on("r2 1 2;t20;n9,10,10;").noMore(0, 1), 58);
+        due("behind 60", Check.on("r2 1 1;t20;n10,10,9;").noMore(0, 1), 60);
         due("noMore(c, 0)", law.noMore(0, 0), OUTSIDE);
         due("noMore(c, 1000)", law.noMore(0, 1000), OUTSIDE);
         due("no cell", law.noMore(-1, 0), UNKNOWN);
@@ -691,6 +718,12 @@ public final class PromisesTest {
         // The half breaks a thin cell beside the way: 20 inches are safe, the 2 of cell 1 not.
         IceLaw thin = Check.on("r2 2 10;t20,2,20,20;p0 60;");
         due("no way by 0, nor at 3", thin.over(0, 0), NONE);
+        due("as many as cells", Check.on("r2 1 10;t8;p0 60;").over(0, 0), 2);
+        IceLaw winding = Check.on("r5 3 30;t9,0,9,9,9,9,0,9,0,9,9,9,9,0,0;p0 1;");
+        due("from below", winding.over(0, 0), 7);
+        winding.step(0, 0);
+        due("winding", winding.over(0, 0), 8);
+        due("down", winding.over(0, 1), 5);
         // Not by the bank: cells 0 and 2 are apart.
         IceLaw apart = Check.on("r3 3 10;t9,0,9,0,0,9,9,9,9;p0 60;");
         apart.step(0, 0);
@@ -812,6 +845,10 @@ public final class PromisesTest {
         due("outside", law.game(0, 100, 0, 0, 0), OUTSIDE);
         due("outside", law.game(0, 0, 100, 0, 0), OUTSIDE);
         due("outside", law.game(0, 0, 0, -1, 0), OUTSIDE);
+        due("outside", law.game(100, 0, 0, 0, 0), OUTSIDE);
+        due("outside", law.game(0, -1, 0, 0, 0), OUTSIDE);
+        due("outside", law.game(0, 0, -1, 0, 0), OUTSIDE);
+        due("outside", law.game(0, 0, 0, 100, 0), OUTSIDE);
         due("outside", law.game(0, 0, 0, 0, 2), OUTSIDE);
         due("outside", law.game(0, 0, 0, 0, -1), OUTSIDE);
     }
@@ -824,6 +861,7 @@ public final class PromisesTest {
         law.salt(1, 4, 60);
         due("three rows", law.tolls(99, 99), 29403);
         due("no ferries", law.tolls(0, 99), 0);
+        due("no tolls", law.tolls(99, 0), 0);
         law.spring();
         due("nobody's", law.tolls(9, 9), 0);
         due("outside", law.tolls(100, 0), OUTSIDE);
@@ -901,7 +939,10 @@ public final class PromisesTest {
         due("none is left", law.ask(), NONE);
         due("alike", Check.on("r2 1 30;p0 1;p1 2;").ask(), NONE);
         due("nobody", Check.on("r2 1 30;").ask(), NONE);
-        due("t of 60", Check.on("r2 1 3;p0 181;").ask(), 1);
+        due("t of 1", Check.on("r2 1 3;p0 181;").ask(), 1);
+        IceLaw last = Check.on("r2 1 3;p0 178;p1 181;");
+        last.see(59, true);
+        due("t of 60", last.ask(), 60);
     }
 
     private static void write() {
