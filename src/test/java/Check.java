@@ -1,17 +1,33 @@
-/** What the project's tests share: a river from a text, and the count of wrong answers. */
+/** What the project's tests share: the count of wrong answers, and of which sentence of the document they are. */
 final class Check {
     private static int asked = 0;
     private static int wrong = 0;
+    private static String sentence = "";
 
     private Check() {
+    }
+
+    /** The words of the document that the answers from here on are about. */
+    static void about(String words) {
+        sentence = words;
     }
 
     static void due(String call, int got, int want) {
         asked++;
         if (got != want) {
             wrong++;
-            System.out.println(call + " answered " + got + ", due is " + want);
+            System.out.println((sentence.isEmpty() ? "" : "[" + sentence + "] ") + call + " answered " + got + ", due is " + want);
         }
+    }
+
+    static void fail(String why) {
+        due(why, 0, 1);
+    }
+
+    /** Numbers that bounds leave out: the first on both sides, and some far away. */
+    static int[] outside(int least, int most) {
+        return new int[] {least - 1, most + 1, least - 256, most + 256, least - 65536, most + 65536,
+            IceLaw.UNKNOWN, IceLaw.FULL, Integer.MIN_VALUE, Integer.MAX_VALUE};
     }
 
     static void feed(IceLaw law, String text) {
@@ -28,8 +44,7 @@ final class Check {
     static IceLaw on(String text) {
         IceLaw law = new IceLaw();
         if (river(law, text) < 0) {
-            wrong++;
-            System.out.println("the text has a fault: " + text);
+            fail("the text has a fault: " + text);
         }
         return law;
     }
