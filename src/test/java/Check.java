@@ -30,6 +30,11 @@ final class Check {
             IceLaw.UNKNOWN, IceLaw.FULL, Integer.MIN_VALUE, Integer.MAX_VALUE};
     }
 
+    /** The document's draw, in numbers that do not wrap around. */
+    static long drawn(long seed) {
+        return (seed * 1103515245L + 12345L) % 2147483648L;
+    }
+
     static void feed(IceLaw law, String text) {
         for (int k = 0; k < text.length(); k++) {
             law.feed(text.charAt(k));

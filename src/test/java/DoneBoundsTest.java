@@ -1,3 +1,5 @@
+import java.util.Random;
+
 /** The bounds of what is done: section 2 and promises 9 to 15, sentence by sentence. */
 public final class DoneBoundsTest {
     private static final int NONE = IceLaw.NONE;
@@ -8,6 +10,7 @@ public final class DoneBoundsTest {
     private static final int DROWNED = -2;
 
     public static void main(String[] args) {
+        whereAtFirst();
         nextOnes();
         halfTogether();
         bears();
@@ -17,6 +20,7 @@ public final class DoneBoundsTest {
         stepBounds();
         breaksAbove();
         breaksAtOnce();
+        tillNoneDoes();
         whoseRiver();
         nightByCold();
         inchesTop();
@@ -59,6 +63,29 @@ public final class DoneBoundsTest {
 
     private static boolean areNext(int a, int b, int w) {
         return Math.abs(a / w - b / w) + Math.abs(a % w - b % w) == 1;
+    }
+
+    private static void whereAtFirst() {
+        about("A PERSON is on the bank of the town (at first), on a CELL, or DROWNED.");
+        Law law = Law.on("r2 1 1;t2,1;p0 2;p1 2;p0 2;p1 2;p0 2;p1 1;");
+        for (int p = 0; p < 6; p++) {
+            due("on the bank", law.person(p, 2), NONE);
+        }
+        due("nobody is drowned", law.told(10), 0);
+        due("the left comes from the left", law.step(0, 1), NOT);
+        due("the left comes from the left", law.step(0, 0), 0);
+        due("on a cell", law.person(0, 2), 0);
+        due("the right comes from the right", law.step(5, 0), NOT);
+        due("drowned", law.step(3, 1), 2);
+        due("drowned", law.person(3, 2), DROWNED);
+        about("10 who is DROWNED (a SET of PERSONS)");
+        due("bits 0 and 3", law.told(10), 9);
+        Law all = Law.on("r2 3 1;t1;" + "p0 2;p1 2;".repeat(3));
+        for (int p = 0; p < 6; p++) {
+            due("each breaks its own", all.step(p, p), 1);
+            due("bits 0 to " + p, all.told(10), (2 << p) - 1);
+        }
+        due("the town's of the first who broke", all.told(6), 0);
     }
 
     private static void nextOnes() {
@@ -264,6 +291,45 @@ public final class DoneBoundsTest {
         Law hole = Law.on("r2 1 30;t40,0;p0 200;");
         due("a hole does not break", hole.step(0, 0), 0);
         due("a hole does not break", hole.told(11), 0);
+    }
+
+    private static void tillNoneDoes() {
+        about("then again, till none does.");
+        for (int run = 0; run < 300; run++) {
+            Random random = new Random(run);
+            int cells = 6 + random.nextInt(2) * 6;
+            Law law = Law.on("r6 " + cells / 6 + " 3;t9,30,14,40,22;c1,0,2;n14,7,12;p0 40;p1 60;p0 25;p1 33;p0 90;p1 7;");
+            for (int k = 0; k < 14; k++) {
+                int p = random.nextInt(6);
+                int kind = random.nextInt(12);
+                if (kind == 0) {
+                    law.night(1 + random.nextInt(3));
+                } else if (kind == 1) {
+                    law.salt(p % 2, random.nextInt(cells), 1 + random.nextInt(9));
+                } else {
+                    walkOn(law, p, random);
+                }
+                dueNoneAbove(law, cells, "run " + run + ", " + k);
+            }
+        }
+    }
+
+    /** One step of a person, if the first way that chance finds can be gone. */
+    private static void walkOn(Law law, int p, Random random) {
+        int at = law.person(p, 2);
+        int[] ways = {at + 1, at - 1, at + 6, at - 6};
+        int c = at >= 0 ? ways[random.nextInt(4)] : p % 2 == 0 ? 0 : 5;
+        law.step(p, c);
+    }
+
+    private static void dueNoneAbove(Law law, int cells, String where) {
+        for (int c = 0; c < cells; c++) {
+            if (law.cell(c, 0) == 0) {
+                due(where + ": nobody stands in hole " + c, law.cell(c, 3), 0);
+            } else {
+                due(where + ": cell " + c + " holds", law.cell(c, 5) >= 10000 ? 1 : 0, 1);
+            }
+        }
     }
 
     private static void whoseRiver() {
@@ -660,11 +726,6 @@ public final class DoneBoundsTest {
         due("in all", all.told(11), 2);
     }
 
-    /** The document's draw, in numbers that do not wrap around. */
-    private static long drawn(long seed) {
-        return (seed * 1103515245L + 12345L) % 2147483648L;
-    }
-
     private static void draws() {
         about("each DRAW it becomes it times 1103515245 and 12345, left over by 2 to the 31; the DRAW of n is it / 65536, left over by n");
         int[] seeds = {0, 1, 2147483647, 2147483646, 1073741824, 65535, 65536, 5, 123456789, 1999999999};
@@ -689,15 +750,15 @@ public final class DoneBoundsTest {
         int p = NONE;
         int c = NONE;
         if (persons > 0) {
-            now = drawn(now);
+            now = Check.drawn(now);
             p = (int) (now / 65536 % persons);
-            now = drawn(now);
+            now = Check.drawn(now);
             c = (int) (now / 65536 % (6 * rows));
         }
-        now = drawn(now);
+        now = Check.drawn(now);
         int snow = 0;
         if (now / 65536 % 4 == 0) {
-            now = drawn(now);
+            now = Check.drawn(now);
             snow = 1 << now / 65536 % (6 * rows);
         }
         String name = "seed " + seed + ", rows " + rows + ", persons " + persons;
@@ -725,8 +786,8 @@ public final class DoneBoundsTest {
         due("who is drowned stays so", drowned.person(0, 2), DROWNED);
         long now = 1;
         for (int k = 0; k < 60; k++) {
-            now = drawn(drawn(drawn(now)));
-            now = now / 65536 % 4 == 0 ? drawn(now) : now;
+            now = Check.drawn(Check.drawn(Check.drawn(now)));
+            now = now / 65536 % 4 == 0 ? Check.drawn(now) : now;
         }
         due("the draws are made all the same", drowned.seed(0), (int) now);
         about("If any BROKE and the RIVER is nobody's, it is the town's of who did that STEP.");

@@ -128,8 +128,8 @@ public final class LongRunsTest {
             due("drift", law.drift(60), 0);
         }
         for (int k = 0; k < 9000; k++) {
-            seed = drawn(seed);
-            seed = seed / 65536 % 4 == 0 ? drawn(seed) : seed;
+            seed = Check.drawn(seed);
+            seed = seed / 65536 % 4 == 0 ? Check.drawn(seed) : seed;
         }
         due("9000 nights", law.told(5), 9000);
         due("the seed by then", law.seed((int) seed), (int) seed);
@@ -137,14 +137,10 @@ public final class LongRunsTest {
         due("9060 is above", law.drift(1), FULL);
         due("no draw was made", law.told(5), 9060);
         for (int k = 0; k < 60; k++) {
-            seed = drawn(seed);
-            seed = seed / 65536 % 4 == 0 ? drawn(seed) : seed;
+            seed = Check.drawn(seed);
+            seed = seed / 65536 % 4 == 0 ? Check.drawn(seed) : seed;
         }
         due("the seed by then", law.seed(0), (int) seed);
-    }
-
-    private static long drawn(long seed) {
-        return (seed * 1103515245L + 12345L) % 2147483648L;
     }
 
     private static void fullAgainAndAgain() {

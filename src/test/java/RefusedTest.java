@@ -3,7 +3,7 @@ import java.util.List;
 import java.util.function.Consumer;
 import java.util.function.ToIntFunction;
 
-/** What is refused changes nothing, and nothing changes by what is only asked: each call on a law beside a twin without it. */
+/** The order of refusals; what is refused changes nothing, and nothing changes by what is only asked: each call on a law beside a twin without it. */
 public final class RefusedTest {
     private static final int UNKNOWN = IceLaw.UNKNOWN;
     private static final int OUTSIDE = IceLaw.OUTSIDE;
@@ -20,6 +20,9 @@ public final class RefusedTest {
         fullLaw();
         lateLaw();
         asked();
+        orderWithoutRiver();
+        orderOnRiver();
+        orderWhenFull();
         Check.end("RefusedTest");
     }
 
@@ -244,6 +247,78 @@ public final class RefusedTest {
         refused("its first cell", law -> law.over(2, 1), 0);
         refused("it cracks", law -> law.heard(1), 0);
         dueTwins("a thin law", RefusedTest::makeThin);
+    }
+
+    // ---- a call that several refusals fit: the first in the document's order
+
+    private static void dueFirst(String call, int got, int want) {
+        Check.due(call, got, want);
+    }
+
+    private static void orderWithoutRiver() {
+        Check.about("REFUSALS, of several the first in this order: UNKNOWN");
+        Law law = new Law();
+        dueFirst("cell(0, 6): UNKNOWN, OUTSIDE", law.cell(0, 6), UNKNOWN);
+        dueFirst("person(0, 3): UNKNOWN, OUTSIDE", law.person(0, 3), UNKNOWN);
+        dueFirst("cold(-1): OUTSIDE, NOT", law.cold(-1), OUTSIDE);
+        dueFirst("night(0): OUTSIDE, NOT", law.night(0), OUTSIDE);
+        dueFirst("night(61): OUTSIDE, NOT", law.night(61), OUTSIDE);
+        dueFirst("drift(0): OUTSIDE, NOT", law.drift(0), OUTSIDE);
+        dueFirst("drift(61): OUTSIDE, NOT", law.drift(61), OUTSIDE);
+        dueFirst("step(0, NONE): UNKNOWN, NOT", law.step(0, -1), UNKNOWN);
+        dueFirst("salt(2, 0, 0): UNKNOWN, OUTSIDE", law.salt(2, 0, 0), UNKNOWN);
+        dueFirst("then(0, 61): UNKNOWN, OUTSIDE", law.then(0, 61), UNKNOWN);
+        dueFirst("when(0, 0): UNKNOWN, OUTSIDE", law.when(0, 0), UNKNOWN);
+        dueFirst("noMore(0, 0): UNKNOWN, OUTSIDE", law.noMore(0, 0), UNKNOWN);
+        dueFirst("over(0, 2): UNKNOWN, OUTSIDE", law.over(0, 2), UNKNOWN);
+        dueFirst("lives(0, 2): UNKNOWN, OUTSIDE", law.lives(0, 2), UNKNOWN);
+        dueFirst("write(0, 61): UNKNOWN, OUTSIDE", law.write(0, 61), UNKNOWN);
+        dueFirst("goBack(2): UNKNOWN, NOT", law.goBack(2), UNKNOWN);
+    }
+
+    private static void orderOnRiver() {
+        Check.about("REFUSALS, of several the first in this order: UNKNOWN");
+        Law law = new Law();
+        makeRich(law);
+        dueFirst("cell(3, 6): UNKNOWN, OUTSIDE", law.cell(3, 6), UNKNOWN);
+        dueFirst("person(3, 3): UNKNOWN, OUTSIDE", law.person(3, 3), UNKNOWN);
+        dueFirst("step of who is drowned to no cell: UNKNOWN, NOT", law.step(1, 3), UNKNOWN);
+        dueFirst("step of nobody onto a hole: UNKNOWN, NOT", law.step(3, 2), UNKNOWN);
+        dueFirst("salt by no town on no cell: UNKNOWN, OUTSIDE", law.salt(2, 3, 1), UNKNOWN);
+        dueFirst("salt of 61 on no cell: UNKNOWN, OUTSIDE", law.salt(0, 3, 61), UNKNOWN);
+        dueFirst("salt by no town on a hole: OUTSIDE, NOT", law.salt(2, 2, 1), OUTSIDE);
+        dueFirst("salt of 0 on a hole: OUTSIDE, NOT", law.salt(0, 2, 0), OUTSIDE);
+        dueFirst("then(3, -1): UNKNOWN, OUTSIDE", law.then(3, -1), UNKNOWN);
+        dueFirst("when(3, 1000): UNKNOWN, OUTSIDE", law.when(3, 1000), UNKNOWN);
+        dueFirst("noMore(3, 1000): UNKNOWN, OUTSIDE", law.noMore(3, 1000), UNKNOWN);
+        dueFirst("over(3, -1): UNKNOWN, OUTSIDE", law.over(3, -1), UNKNOWN);
+        dueFirst("over of who is drowned, 2: OUTSIDE, NOT", law.over(1, 2), OUTSIDE);
+        dueFirst("lives(3, -1): UNKNOWN, OUTSIDE", law.lives(3, -1), UNKNOWN);
+        dueFirst("lives of who is drowned, -1: OUTSIDE, NOT", law.lives(1, -1), OUTSIDE);
+        dueFirst("write(3, -1): UNKNOWN, OUTSIDE", law.write(3, -1), UNKNOWN);
+        dueFirst("goBack(-1): UNKNOWN, NOT", law.goBack(-1), UNKNOWN);
+    }
+
+    private static void orderWhenFull() {
+        Check.about("OUTSIDE (another number out of its bounds), NOT (not now, as told), FULL.");
+        Law full = new Law();
+        makeFull(full);
+        dueFirst("feed(256): OUTSIDE, FULL", full.feed(256), OUTSIDE);
+        dueFirst("feed(-1): OUTSIDE, FULL", full.feed(-1), OUTSIDE);
+        dueFirst("see(0, true): OUTSIDE, FULL", full.see(0, true), OUTSIDE);
+        dueFirst("see(61, true): OUTSIDE, FULL", full.see(61, true), OUTSIDE);
+        dueFirst("write(2, 0): UNKNOWN, FULL", full.write(2, 0), UNKNOWN);
+        dueFirst("write(2, 61): UNKNOWN, OUTSIDE, FULL", full.write(2, 61), UNKNOWN);
+        dueFirst("write(0, 61): OUTSIDE, FULL", full.write(0, 61), OUTSIDE);
+        Law late = new Law();
+        makeLate(late);
+        dueFirst("night(0): OUTSIDE, FULL", late.night(0), OUTSIDE);
+        dueFirst("night(61): OUTSIDE, FULL", late.night(61), OUTSIDE);
+        dueFirst("drift(0): OUTSIDE, FULL", late.drift(0), OUTSIDE);
+        dueFirst("drift(61): OUTSIDE, FULL", late.drift(61), OUTSIDE);
+        late.river();
+        late.river();
+        dueFirst("no river any more: NOT", late.night(1), NOT);
     }
 
     /** Person 0 on cell 0, that cracks; on cell 1 it would break cell 2. */

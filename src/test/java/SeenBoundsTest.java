@@ -147,6 +147,13 @@ public final class SeenBoundsTest {
         due("no least", law.who(1), NONE);
         due("nobody is sure", law.who(2), 0);
         due("nothing to ask", law.ask(), NONE);
+        Law found = Law.on("r2 1 19;" + SIX);
+        found.see(60, true);
+        due("all six are sure", found.who(2), 63);
+        found.see(60, false);
+        due("no set fits any more", found.who(0), 0);
+        due("no least any more", found.who(1), NONE);
+        due("nobody is sure any more", found.who(2), 0);
         Law none = new Law();
         none.see(1, true);
         due("nobody breaks it", none.who(0), 0);
@@ -208,6 +215,15 @@ public final class SeenBoundsTest {
         due("30 and 50", two.ask(), 30);
         two.see(30, false);
         due("one is left", two.ask(), NONE);
+        // Sets that fitted once are out of the question: 0 and 10 of 0, 10, 20, 30.
+        Law fewer = Law.on("r2 1 1;p0 10;p0 20;");
+        due("halves", fewer.ask(), 10);
+        fewer.see(15, false);
+        due("two of four are left", fewer.ask(), 1);
+        fewer.see(5, true);
+        due("one of four is left", fewer.ask(), NONE);
+        fewer.tear();
+        due("all four again", fewer.ask(), 10);
     }
 
     // ---- write(), tear(), judge()

@@ -541,8 +541,33 @@ public final class TextBoundsTest {
         due("goBack(0)", gone.goBack(0), NOT);
         due("the seed stays", gone.seed(0), 7);
         due("a river again", gone.read("r2 1 1;"), 2);
+        emptyBehindMany();
         // Blanks alone have no clause, so they are read as an empty text.
         dueCells("   ", 0);
+    }
+
+    /** Nothing of any earlier text is left, whether it became a river or had a fault. */
+    private static void emptyBehindMany() {
+        String[] texts = {"r6 3 30;t1;c9;n20;p1 200;", "r5 2 20;p0 1;", "r4 3 7;t5;x", "r3 2 9;p1 9"};
+        Law law = new Law();
+        for (String text : texts) {
+            law.read(text);
+            law.river();
+            for (int what = 0; what <= 15; what++) {
+                due("behind '" + text + "': told(" + what + ")", law.told(what), what == 6 || what == 12 ? NONE : 0);
+            }
+            due("cell(0, 0)", law.cell(0, 0), UNKNOWN);
+            due("person(0, 0)", law.person(0, 0), UNKNOWN);
+        }
+        Law bare = new Law();
+        for (String text : texts) {
+            bare.read(text);
+            due("a bare river behind '" + text + "'", bare.read("r2 1 1;"), 2);
+            due("thick", bare.cell(1, 0), 10);
+            due("current", bare.cell(1, 4), 0);
+            due("cold", bare.cold(0), 10);
+            due("persons", bare.told(3), 0);
+        }
     }
 
     // ---- river(), fault()

@@ -8,6 +8,7 @@ public final class TriedBoundsTest {
     public static void main(String[] args) {
         thenBounds();
         thenNobodyThere();
+        thenSnow();
         first();
         whenBounds();
         whenFirst();
@@ -93,6 +94,35 @@ public final class TriedBoundsTest {
         Law low = Law.on("r2 1 1;t1;n0,20;");
         due("0 at least", low.then(0, 1), 0);
         due("10 more from 0", low.then(0, 2), 10);
+    }
+
+    /** Snow lies till the first night that has no cold above 0: as it comes, so it is tried. */
+    private static void thenSnow() {
+        about("half of that (cut) where SNOW lies. With another COLD: as many INCHES fewer as COLD is below 0, and CURRENT; all SNOW goes.");
+        String[] colds = {"12,10", "10,12", "11,12", "11,11,13", "9,12", "14,12,10,13", "20,0", "13"};
+        for (String list : colds) {
+            String text = "r2 1 10;t8;c0,1;n" + list + ";";
+            Law tried = Law.on(text);
+            Law passed = Law.on(text);
+            tried.snow(0, true);
+            passed.snow(0, true);
+            int now = tried.cell(0, 0);
+            int most = now;
+            int least = now;
+            for (int n = 1; n <= 60; n++) {
+                passed.night(1);
+                int inches = passed.cell(0, 0);
+                due(list + ": then(0, " + n + ")", tried.then(0, n), inches);
+                if (inches > most) {
+                    due(list + ": first bears more than " + most * 10, tried.when(0, most * 10 + 1), n);
+                    most = inches;
+                }
+                if (inches < least) {
+                    due(list + ": first bears less than " + least * 10, tried.noMore(0, least * 10), n);
+                    least = inches;
+                }
+            }
+        }
     }
 
     private static void first() {
