@@ -35,25 +35,6 @@ final class Check {
         return (seed * 1103515245L + 12345L) % 2147483648L;
     }
 
-    static void feed(IceLaw law, String text) {
-        for (int k = 0; k < text.length(); k++) {
-            law.feed(text.charAt(k));
-        }
-    }
-
-    static int river(IceLaw law, String text) {
-        feed(law, text);
-        return law.river();
-    }
-
-    static IceLaw on(String text) {
-        IceLaw law = new IceLaw();
-        if (river(law, text) < 0) {
-            fail("the text has a fault: " + text);
-        }
-        return law;
-    }
-
     static void end(String name) {
         System.out.println(name + ": " + asked + " answers, " + wrong + " wrong");
         if (wrong != 0 || asked == 0) {

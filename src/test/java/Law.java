@@ -1,4 +1,4 @@
-/** The class as the tests of bounds use it: its calls are counted, as nothing is promised behind the 512th. */
+/** The class as all tests use it: its calls are counted, as nothing is promised behind the 512th. */
 final class Law {
     static final int MOST_CALLS = 512;
 
@@ -27,6 +27,11 @@ final class Law {
 
     int calls() {
         return calls;
+    }
+
+    /** How many calls more are promised to be answered. */
+    int left() {
+        return MOST_CALLS - calls;
     }
 
     private IceLaw next() {

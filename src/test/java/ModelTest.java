@@ -1,12 +1,13 @@
 import java.util.Random;
 
-/** Random runs of calls, each answered by the class and by the model; all that can be asked is compared. */
+/** Random runs of up to 512 calls on one object, each answered by the class and by the model, and compared. */
 public final class ModelTest {
-    private static final int RUNS = 3000;
-    private static final int CALLS = 150;
+    private static final int RUNS = 8000;
+    /** The calls that askAll makes at most, kept for the end of each run: nothing is promised behind the 512th. */
+    private static final int CLOSING = 120;
 
     private final Random random;
-    private final IceLaw law = new IceLaw();
+    private final Law law = new Law();
     private final Model model = new Model();
     private final StringBuilder told = new StringBuilder();
     private final int run;
@@ -28,7 +29,7 @@ public final class ModelTest {
         if (random.nextInt(20) > 0) {
             readText(validText());
         }
-        for (int k = 0; k < CALLS; k++) {
+        while (law.left() > CLOSING) {
             act(random.nextInt(100));
             if (random.nextInt(4) == 0) {
                 ask();
@@ -68,6 +69,9 @@ public final class ModelTest {
     // ---- texts
 
     private void readText(String text) {
+        if (law.left() < text.length() + 2 + CLOSING) {
+            return;
+        }
         for (int k = 0; k < text.length(); k++) {
             due("feed(" + (int) text.charAt(k) + ")", law.feed(text.charAt(k)), model.feed(text.charAt(k)));
         }
@@ -222,7 +226,9 @@ public final class ModelTest {
             case 12 -> due("who(" + what + ")", law.who(what), model.who(what));
             case 13 -> due("ask()", law.ask(), model.ask());
             case 14 -> due("cell(" + c + ", " + k + ")", law.cell(c, k), model.cell(c, k));
-            default -> askAll();
+            default -> {
+                if (law.left() > 2 * CLOSING) askAll();
+            }
         }
     }
 
@@ -235,24 +241,22 @@ public final class ModelTest {
         due("game(" + a + ", " + b + ", " + c + ", " + d + ", " + what + ")", law.game(a, b, c, d, what), model.game(a, b, c, d, what));
     }
 
+    /** All of what is so, and of each cell and person one thing that is tried. */
     private void askAll() {
         for (int what = -1; what <= 16; what++) {
             due("told(" + what + ")", law.told(what), model.told(what));
         }
         for (int c = -1; c <= model.told.cells(); c++) {
-            for (int what = -1; what <= 6; what++) {
-                due("cell(" + c + ", " + what + ")", law.cell(c, what), model.cell(c, what));
-            }
-            due("heard(" + c + ")", law.heard(c), model.heard(c));
-            due("fewest(" + c + ")", law.fewest(c), model.fewest(c));
-            due("leastSalt(" + c + ")", law.leastSalt(c), model.leastSalt(c));
+            due("cell(" + c + ", 0)", law.cell(c, 0), model.cell(c, 0));
+            int what = among(-1, 6);
+            due("cell(" + c + ", " + what + ")", law.cell(c, what), model.cell(c, what));
+            tryCell(c);
         }
         for (int p = -1; p <= model.told.persons.size(); p++) {
-            for (int what = -1; what <= 3; what++) {
-                due("person(" + p + ", " + what + ")", law.person(p, what), model.person(p, what));
-                due("over(" + p + ", " + what + ")", law.over(p, what), model.over(p, what));
-                due("lives(" + p + ", " + what + ")", law.lives(p, what), model.lives(p, what));
-            }
+            int what = among(-1, 3);
+            due("person(" + p + ", 2)", law.person(p, 2), model.person(p, 2));
+            due("person(" + p + ", " + what + ")", law.person(p, what), model.person(p, what));
+            tryPerson(p, number(0, 1));
         }
         for (int what = -1; what <= 3; what++) {
             due("who(" + what + ")", law.who(what), model.who(what));
@@ -261,5 +265,21 @@ public final class ModelTest {
         due("judge()", law.judge(), model.judge());
         due("tolls(9, 9)", law.tolls(9, 9), model.tolls(9, 9));
         due("fault()", law.fault(), model.faultAt);
+    }
+
+    private void tryCell(int c) {
+        switch (random.nextInt(3)) {
+            case 0 -> due("heard(" + c + ")", law.heard(c), model.heard(c));
+            case 1 -> due("fewest(" + c + ")", law.fewest(c), model.fewest(c));
+            default -> due("leastSalt(" + c + ")", law.leastSalt(c), model.leastSalt(c));
+        }
+    }
+
+    private void tryPerson(int p, int what) {
+        if (random.nextBoolean()) {
+            due("over(" + p + ", " + what + ")", law.over(p, what), model.over(p, what));
+        } else {
+            due("lives(" + p + ", " + what + ")", law.lives(p, what), model.lives(p, what));
+        }
     }
 }

@@ -59,8 +59,8 @@ public final class PromisesTest {
     }
 
     private static void dueFault(String text, int number, int letter) {
-        IceLaw law = new IceLaw();
-        due("river of " + text, Check.river(law, text), -10 - number);
+        Law law = new Law();
+        due("river of " + text, law.read(text), -10 - number);
         due("fault of " + text, law.fault(), letter);
     }
 
@@ -71,7 +71,7 @@ public final class PromisesTest {
     // ---- the river
 
     private static void newObject() {
-        IceLaw law = new IceLaw();
+        Law law = new Law();
         for (int what = 0; what <= 15; what++) {
             due("new: told(" + what + ")", law.told(what), what == 6 || what == 12 ? NONE : 0);
         }
@@ -87,7 +87,7 @@ public final class PromisesTest {
     }
 
     private static void feed() {
-        IceLaw law = new IceLaw();
+        Law law = new Law();
         due("feed(-1)", law.feed(-1), OUTSIDE);
         due("feed(256)", law.feed(256), OUTSIDE);
         due("feed(0)", law.feed(0), 1);
@@ -102,25 +102,25 @@ public final class PromisesTest {
         due("river of it", law.river(), -11);
         due("letters behind a fault", law.told(4), 0);
         due("feed again", law.feed('r'), 1);
-        IceLaw whole = Check.on("r6 3 30;" + many(" ", 232));
+        Law whole = Law.on("r6 3 30;" + many(" ", 232));
         due("240 letters", whole.told(0), 6);
     }
 
     private static void riverTexts() {
-        IceLaw law = new IceLaw();
-        due("river", Check.river(law, "r6 3 30;"), 18);
-        due("river", Check.river(law, "r2 1 1;"), 2);
+        Law law = new Law();
+        due("river", law.read("r6 3 30;"), 18);
+        due("river", law.read("r2 1 1;"), 2);
         due("untold thick", law.cell(1, 0), 10);
         due("untold current", law.cell(1, 4), 0);
         due("untold cold", law.cold(7), 10);
         due("fault", law.fault(), NONE);
-        due("blanks", Check.river(law, "  r 004  2 010 ; t 3 , 4 ; p 0   200 ; "), 8);
+        due("blanks", law.read("  r 004  2 010 ; t 3 , 4 ; p 0   200 ; "), 8);
         due("thick goes round", law.cell(5, 0), 4);
         due("an inch bears", law.told(2), 10);
         due("weight", law.person(0, 1), 200);
-        due("any order", Check.river(law, "r2 1 1;p0 1;n3;c4;t5;p1 2;"), 2);
+        due("any order", law.read("r2 1 1;p0 1;n3;c4;t5;p1 2;"), 2);
         due("persons", law.told(3), 2);
-        due("most of all", Check.river(law, "r6 3 1;t" + many("1,", 17) + "2;c" + many("3,", 5) + "4;n"
+        due("most of all", law.read("r6 3 1;t" + many("1,", 17) + "2;c" + many("3,", 5) + "4;n"
             + many("5,", 11) + "6;" + many("p0 9;", 6)), 18);
         due("the 18th", law.cell(17, 0), 2);
         due("the sixth", law.cell(5, 4), 4);
@@ -185,7 +185,7 @@ public final class PromisesTest {
         dueFault("r2 1 1;p070;", 2, 8);
         dueFault("r2 1 1;p0 0;", 2, 10);
         dueFault("r2 1 1;p0 201;", 2, 10);
-        due("bounds", Check.river(new IceLaw(), "r2 1 1;t0,40;c0,9;n0,20;p0 1;p1 200;"), 2);
+        due("bounds", new Law().read("r2 1 1;t0,40;c0,9;n0,20;p0 1;p1 200;"), 2);
     }
 
     private static void riverFaultThree() {
@@ -198,7 +198,7 @@ public final class PromisesTest {
     }
 
     private static void riverResets() {
-        IceLaw law = Check.on(PLAIN);
+        Law law = Law.on(PLAIN);
         law.night(2);
         law.snow(0, true);
         law.step(0, 0);
@@ -207,14 +207,14 @@ public final class PromisesTest {
         law.seed(77);
         law.keep(1);
         law.salt(0, 3, 60);
-        due("a fault", Check.river(law, "r9"), -12);
+        due("a fault", law.read("r9"), -12);
         due("a fault leaves", law.told(5), 2);
         due("a fault leaves", law.told(15), 1);
         due("a fault leaves", law.told(13) + law.told(14), 2);
         due("a fault leaves", law.person(0, 2), 0);
         due("a fault leaves", law.told(6), 0);
         due("fault", law.fault(), 1);
-        Check.feed(law, PLAIN);
+        law.tell(PLAIN);
         due("letters", law.told(4), PLAIN.length());
         due("river", law.river(), 6);
         int[] asked = {4, 5, 7, 8, 10, 11, 13, 14, 15};
@@ -233,7 +233,7 @@ public final class PromisesTest {
     }
 
     private static void told() {
-        IceLaw law = Check.on("r3 2 10;t8,0,8,8,8,8;n12;p0 50;p0 1;p1 80;");
+        Law law = Law.on("r3 2 10;t8,0,8,8,8,8;n12;p0 50;p0 1;p1 80;");
         due("columns", law.told(0), 3);
         due("rows", law.told(1), 2);
         due("an inch", law.told(2), 10);
@@ -268,12 +268,12 @@ public final class PromisesTest {
         due("holes", law.told(7), 6);
         due("told(-1)", law.told(-1), OUTSIDE);
         due("told(16)", law.told(16), OUTSIDE);
-        IceLaw holes = Check.on("r2 1 1;t0;");
+        Law holes = Law.on("r2 1 1;t0;");
         due("first of holes", holes.told(12), NONE);
     }
 
     private static void cell() {
-        IceLaw law = Check.on("r3 3 10;t8;c1,2;p0 31;p0 33;p1 75;p1 1;");
+        Law law = Law.on("r3 3 10;t8;c1,2;p0 31;p0 33;p1 75;p1 1;");
         law.step(0, 0);
         law.step(1, 0);
         law.step(2, 2);
@@ -300,7 +300,7 @@ public final class PromisesTest {
     }
 
     private static void person() {
-        IceLaw law = Check.on(PLAIN);
+        Law law = Law.on(PLAIN);
         due("town", law.person(0, 0), 0);
         due("town", law.person(1, 0), 1);
         due("weight", law.person(1, 1), 80);
@@ -316,20 +316,20 @@ public final class PromisesTest {
     }
 
     private static void cold() {
-        IceLaw law = Check.on("r2 1 1;n0,20,7;");
+        Law law = Law.on("r2 1 1;n0,20,7;");
         due("cold", law.cold(0), 0);
         due("cold", law.cold(4), 20);
         due("cold", law.cold(9999), 0);
         due("cold(-1)", law.cold(-1), OUTSIDE);
         due("cold(10000)", law.cold(10000), OUTSIDE);
-        due("no river, outside", new IceLaw().cold(10000), OUTSIDE);
-        due("no river", new IceLaw().cold(0), NOT);
+        due("no river, outside", new Law().cold(10000), OUTSIDE);
+        due("no river", new Law().cold(0), NOT);
     }
 
     // ---- what is done
 
     private static void night() {
-        IceLaw law = Check.on("r3 1 10;t8,0,39;c0,3,9;n15,10,7,20;");
+        Law law = Law.on("r3 1 10;t8,0,39;c0,3,9;n15,10,7,20;");
         law.snow(0, true);
         law.snow(1, true);
         due("night", law.night(1), 1);
@@ -367,19 +367,19 @@ public final class PromisesTest {
         law.undo();
         law.night(1);
         due("9001 is above", law.night(1), FULL);
-        due("no river, outside", new IceLaw().night(61), OUTSIDE);
-        due("no river", new IceLaw().night(1), NOT);
+        due("no river, outside", new Law().night(61), OUTSIDE);
+        due("no river", new Law().night(1), NOT);
     }
 
     private static void nightBreaksAndDrowns() {
         // The night takes 3: 5 inches bear 50, 60 are on cell 0.
-        IceLaw law = Check.on("r3 1 10;t8;n7;p0 60;");
+        Law law = Law.on("r3 1 10;t8;n7;p0 60;");
         law.step(0, 0);
         due("night", law.night(1), 1);
         due("broke", law.told(11), 1);
         due("drowned", law.told(10), 1);
         due("the river stays nobody's", law.told(6), NONE);
-        IceLaw least = Check.on("r2 1 10;t8;c0,1;n11,10;");
+        Law least = Law.on("r2 1 10;t8;c0,1;n11,10;");
         least.snow(0, true);
         due("the least cold", least.night(1), 1);
         due("half of 1, cut", least.cell(0, 0), 8);
@@ -389,14 +389,14 @@ public final class PromisesTest {
         due("snow goes at 0", least.told(8), 0);
         due("current", least.cell(1, 0), 7);
         // Melted, not broken: 0 inches, and who is there drowns.
-        IceLaw melted = Check.on("r3 1 30;t2,9,9;n8;p0 60;");
+        Law melted = Law.on("r3 1 30;t2,9,9;n8;p0 60;");
         melted.step(0, 0);
         melted.night(1);
         due("melted", melted.told(7), 1);
         due("melted is not broken", melted.told(11), 0);
         due("drowned all the same", melted.told(10), 1);
         // Cell 0 melts under 200; cell 1 bears 90 by then, and breaks by the half, 100, that still weighs.
-        IceLaw both = Check.on("r3 1 30;t7,10,40;c0;n3;p0 200;");
+        Law both = Law.on("r3 1 30;t7,10,40;c0;n3;p0 200;");
         both.step(0, 0);
         due("broke", both.told(11), 0);
         both.night(1);
@@ -405,7 +405,7 @@ public final class PromisesTest {
     }
 
     private static void step() {
-        IceLaw law = Check.on("r3 2 30;t9,9,9,9,9,0;p0 20;p1 30;");
+        Law law = Law.on("r3 2 30;t9,9,9,9,9,0;p0 20;p1 30;");
         due("across from the bank", law.step(0, 1), NOT);
         due("to the other bank", law.step(0, 2), NOT);
         due("the bank itself", law.step(0, NONE), NOT);
@@ -440,7 +440,7 @@ public final class PromisesTest {
 
     private static void stepBreaks() {
         // 100 on cell 0: it bears 99; 1 and 3 have 50 of 45, 60.
-        IceLaw law = Check.on("r3 2 3;t33,15,33,20,33,33;p0 100;p1 50;p1 40;");
+        Law law = Law.on("r3 2 3;t33,15,33,20,33,33;p0 100;p1 50;p1 40;");
         due("two at once", law.step(0, 0), 2);
         due("holes", law.told(7), 3);
         due("drowned", law.told(10), 1);
@@ -455,13 +455,13 @@ public final class PromisesTest {
         due("salt to the brink", law.salt(1, 2, 60), 1);
         due("right's now", law.told(6), 1);
         // One hole makes another only if who drowned no longer weighs.
-        IceLaw chain = Check.on("r2 2 10;t10,10,5,9;p0 60;p0 60;p0 61;");
+        Law chain = Law.on("r2 2 10;t10,10,5,9;p0 60;p0 60;p0 61;");
         due("60", chain.step(0, 0), 0);
         due("60 more: 120 of 100, 0 breaks, 1 has 60 of 100, 2 has 60 of 50", chain.step(1, 0), 2);
         due("holes", chain.told(7), 5);
         due("no load any more", chain.cell(1, 2), 0);
         // The half of a town's two breaks what neither breaks alone; the breaker lives.
-        IceLaw half = Check.on("r3 1 10;t20,5,20;p0 60;p1 60;");
+        Law half = Law.on("r3 1 10;t20,5,20;p0 60;p1 60;");
         due("left", half.step(0, 0), 0);
         due("right breaks the middle", half.step(1, 2), 1);
         due("right's", half.told(6), 1);
@@ -469,7 +469,7 @@ public final class PromisesTest {
     }
 
     private static void salt() {
-        IceLaw law = Check.on(PLAIN);
+        Law law = Law.on(PLAIN);
         law.step(1, 5);
         due("salt", law.salt(0, 4, 3), 0);
         due("inches less", law.cell(4, 0), 5);
@@ -490,17 +490,17 @@ public final class PromisesTest {
         due("broke", law.told(11), 3);
         due("no more load", law.cell(2, 2), 0);
         // Who drowns in the salted cell weighs no more: cell 1 stays.
-        IceLaw weigh = Check.on("r3 1 10;t20,8,20;p0 160;");
+        Law weigh = Law.on("r3 1 10;t20,8,20;p0 160;");
         weigh.step(0, 0);
         due("only the one", weigh.salt(1, 0, 60), 1);
-        IceLaw others = Check.on("r3 1 10;t20,8,20;p0 160;");
+        Law others = Law.on("r3 1 10;t20,8,20;p0 160;");
         others.step(0, 0);
         due("the cell breaks by its load", others.salt(1, 0, 5), 1);
         due("drowned", others.told(10), 1);
     }
 
     private static void snow() {
-        IceLaw law = Check.on(PLAIN);
+        Law law = Law.on(PLAIN);
         due("snow", law.snow(5, true), 0);
         due("again", law.snow(5, true), 1);
         due("lies", law.told(8), 32);
@@ -516,7 +516,7 @@ public final class PromisesTest {
     }
 
     private static void spring() {
-        IceLaw law = Check.on(PLAIN);
+        Law law = Law.on(PLAIN);
         due("nobody's", law.spring(), NONE);
         law.step(0, 0);
         law.step(1, 2);
@@ -533,12 +533,12 @@ public final class PromisesTest {
         law.snow(1, true);
         law.spring();
         due("snow stays", law.told(8), 2);
-        due("no river", new IceLaw().spring(), NOT);
+        due("no river", new Law().spring(), NOT);
     }
 
     private static void drift() {
         // The seed's draws: seed 0 becomes 12345, 1406932606, 654583775, 1449466924 ..
-        IceLaw law = Check.on("r2 1 30;t5;n12;");
+        Law law = Law.on("r2 1 30;t5;n12;");
         due("no persons: one draw of four a night", law.drift(1), 0);
         // 12345 / 65536 is 0: snow; 1406932606 / 65536 is 21468: cell 0. Then a night: 5 + 1, 5 + 2.
         due("snow by draw", law.told(8), 1);
@@ -546,14 +546,14 @@ public final class PromisesTest {
         due("beside it", law.cell(1, 0), 7);
         due("seed", law.seed(12345), 1406932606);
         // 1406932606: 21468 of one person: 0; 654583775: 9988 of 2: 0; 1449466924: 22117 of 4: 1, no snow.
-        IceLaw one = Check.on("r2 1 30;t5;n12;p0 149;");
+        Law one = Law.on("r2 1 30;t5;n12;p0 149;");
         one.seed(12345);
         due("a step by draw", one.drift(1), 0);
         due("on cell 0", one.person(0, 2), 0);
         due("no snow", one.told(8), 0);
         due("seed", one.seed(0), 1449466924);
         // 151 of 150: it breaks at the step, left's; told in all.
-        IceLaw broke = Check.on("r2 1 30;t5;n12;p0 151;");
+        Law broke = Law.on("r2 1 30;t5;n12;p0 151;");
         broke.salt(1, 1, 60);
         broke.seed(12345);
         due("in all", broke.drift(1), 2);
@@ -563,12 +563,12 @@ public final class PromisesTest {
         due("drift(0)", broke.drift(0), OUTSIDE);
         due("drift(61)", broke.drift(61), OUTSIDE);
         due("one undo each", broke.undo(), 2);
-        due("no river, outside", new IceLaw().drift(0), OUTSIDE);
-        due("no river", new IceLaw().drift(60), NOT);
+        due("no river, outside", new Law().drift(0), OUTSIDE);
+        due("no river", new Law().drift(60), NOT);
     }
 
     private static void undo() {
-        IceLaw law = Check.on("r3 1 10;t8;n12,7;p0 60;p1 90;");
+        Law law = Law.on("r3 1 10;t8;n12,7;p0 60;p1 90;");
         due("none", law.undo(), NOT);
         law.snow(1, true);
         law.step(0, 0);
@@ -610,7 +610,7 @@ public final class PromisesTest {
         law.night(1);
         due("a refused one is none", law.night(0), OUTSIDE);
         due("one", law.undo(), 0);
-        IceLaw drowned = Check.on(PLAIN);
+        Law drowned = Law.on(PLAIN);
         drowned.step(0, 0);
         drowned.salt(0, 0, 60);
         drowned.undo();
@@ -620,7 +620,7 @@ public final class PromisesTest {
     // ---- tried
 
     private static void then() {
-        IceLaw law = Check.on("r3 1 10;t8;c0,1,2;n13,7,15;p0 60;");
+        Law law = Law.on("r3 1 10;t8;c0,1,2;n13,7,15;p0 60;");
         due("now", law.then(0, 0), 8);
         due("one", law.then(0, 1), 11);
         due("two", law.then(0, 2), 8);
@@ -635,11 +635,11 @@ public final class PromisesTest {
         due("nobody there", law.then(0, 1), 4);
         due("nothing changes", law.told(5), 1);
         due("most", law.then(0, 60), 60);
-        IceLaw still = Check.on("r2 1 10;t8;n12,10;");
+        Law still = Law.on("r2 1 10;t8;n12,10;");
         still.snow(0, true);
         due("snow goes at 0: 9, 9, 11", still.then(0, 3), 11);
         due("first behind 3", still.when(0, 110), 3);
-        due("snow stays at 1", Check.on("r2 1 10;t8;n11,12;").then(0, 2), 11);
+        due("snow stays at 1", Law.on("r2 1 10;t8;n11,12;").then(0, 2), 11);
         due("then(c, 61)", law.then(0, 61), OUTSIDE);
         due("then(c, -1)", law.then(0, -1), OUTSIDE);
         due("no cell", law.then(3, 61), UNKNOWN);
@@ -647,7 +647,7 @@ public final class PromisesTest {
     }
 
     private static void when() {
-        IceLaw law = Check.on("r2 1 10;t8;n12,9;");
+        Law law = Law.on("r2 1 10;t8;n12,9;");
         due("now", law.when(0, 80), 0);
         due("one", law.when(0, 81), 1);
         due("one", law.when(0, 100), 1);
@@ -657,7 +657,7 @@ public final class PromisesTest {
         law.snow(0, true);
         due("snow: 9, 8, 10", law.when(0, 100), 3);
         due("the least weight", law.when(0, 1), 0);
-        IceLaw last = Check.on("r2 1 1;t0;n11;");
+        Law last = Law.on("r2 1 1;t0;n11;");
         due("behind 60", last.when(0, 60), 60);
         due("never", last.when(0, 61), NONE);
         due("when(c, 0)", law.when(0, 0), OUTSIDE);
@@ -667,26 +667,26 @@ public final class PromisesTest {
     }
 
     private static void noMore() {
-        IceLaw law = Check.on("r2 1 10;t8;c0,1;n12,9,6;");
+        Law law = Law.on("r2 1 10;t8;c0,1;n12,9,6;");
         due("not now", law.noMore(0, 81), 0);
         due("now, but not behind 3", law.noMore(0, 80), 3);
         due("later", law.noMore(0, 50), 6);
         due("current: 8, 9, 7", law.noMore(1, 80), 2);
-        IceLaw still = Check.on("r2 1 10;t8;");
+        Law still = Law.on("r2 1 10;t8;");
         due("never", still.noMore(0, 80), NONE);
-        IceLaw last = Check.on("r2 1 1;t30;n9,11,9;");
+        Law last = Law.on("r2 1 1;t30;n9,11,9;");
         due("behind the 58th", last.noMore(0, 11), 58);
         due("behind the 60th less one", last.noMore(0, 12), 55);
         due("not behind 60", last.noMore(0, 10), NONE);
-        due("behind 58", Check.on("r2 1 2;t20;n9,10,10;").noMore(0, 1), 58);
-        due("behind 60", Check.on("r2 1 1;t20;n10,10,9;").noMore(0, 1), 60);
+        due("behind 58", Law.on("r2 1 2;t20;n9,10,10;").noMore(0, 1), 58);
+        due("behind 60", Law.on("r2 1 1;t20;n10,10,9;").noMore(0, 1), 60);
         due("noMore(c, 0)", law.noMore(0, 0), OUTSIDE);
         due("noMore(c, 1000)", law.noMore(0, 1000), OUTSIDE);
         due("no cell", law.noMore(-1, 0), UNKNOWN);
     }
 
     private static void over() {
-        IceLaw law = Check.on("r3 2 10;t8;p0 60;p1 80;p1 40;");
+        Law law = Law.on("r3 2 10;t8;p0 60;p1 80;p1 40;");
         due("straight", law.over(0, 0), 3);
         due("least of like ones", law.over(0, 1), 0);
         due("right", law.over(1, 0), 3);
@@ -716,16 +716,16 @@ public final class PromisesTest {
         due("drowned", law.over(0, 0), NOT);
         due("drowned, outside", law.over(0, 2), OUTSIDE);
         // The half breaks a thin cell beside the way: 20 inches are safe, the 2 of cell 1 not.
-        IceLaw thin = Check.on("r2 2 10;t20,2,20,20;p0 60;");
+        Law thin = Law.on("r2 2 10;t20,2,20,20;p0 60;");
         due("no way by 0, nor at 3", thin.over(0, 0), NONE);
-        due("as many as cells", Check.on("r2 1 10;t8;p0 60;").over(0, 0), 2);
-        IceLaw winding = Check.on("r5 3 30;t9,0,9,9,9,9,0,9,0,9,9,9,9,0,0;p0 1;");
+        due("as many as cells", Law.on("r2 1 10;t8;p0 60;").over(0, 0), 2);
+        Law winding = Law.on("r5 3 30;t9,0,9,9,9,9,0,9,0,9,9,9,9,0,0;p0 1;");
         due("from below", winding.over(0, 0), 7);
         winding.step(0, 0);
         due("winding", winding.over(0, 0), 8);
         due("down", winding.over(0, 1), 5);
         // Not by the bank: cells 0 and 2 are apart.
-        IceLaw apart = Check.on("r3 3 10;t9,0,9,0,0,9,9,9,9;p0 60;");
+        Law apart = Law.on("r3 3 10;t9,0,9,0,0,9,9,9,9;p0 60;");
         apart.step(0, 0);
         due("not by the bank", apart.over(0, 0), NONE);
         apart.step(0, NONE);
@@ -734,7 +734,7 @@ public final class PromisesTest {
     }
 
     private static void fewest() {
-        IceLaw law = Check.on("r3 1 10;t8;p0 30;p0 40;p1 50;p1 41;");
+        Law law = Law.on("r3 1 10;t8;p0 30;p0 40;p1 50;p1 41;");
         due("two", law.fewest(0), 6);
         law.step(0, 0);
         // 30 is there: 50 more is 80, 41 .. 71, 40 .. 70; of two: 40 and 50.
@@ -748,14 +748,14 @@ public final class PromisesTest {
         law.salt(0, 2, 2);
         due("drowned", law.told(10), 4);
         due("who is drowned is none", law.fewest(1), 10);
-        due("all are not enough", Check.on("r2 1 30;t40;p0 200;p0 200;").fewest(0), NONE);
-        due("no persons", Check.on("r2 1 1;t1;").fewest(0), NONE);
+        due("all are not enough", Law.on("r2 1 30;t40;p0 200;p0 200;").fewest(0), NONE);
+        due("no persons", Law.on("r2 1 1;t1;").fewest(0), NONE);
         due("a hole", law.fewest(2), NOT);
         due("no cell", law.fewest(3), UNKNOWN);
     }
 
     private static void leastSalt() {
-        IceLaw law = Check.on(PLAIN);
+        Law law = Law.on(PLAIN);
         due("all of it", law.leastSalt(0), 8);
         law.step(0, 0);
         due("bears 60 of 60", law.leastSalt(0), 3);
@@ -768,7 +768,7 @@ public final class PromisesTest {
     }
 
     private static void lives() {
-        IceLaw law = Check.on("r3 2 10;t8,2,8,8,8,5;p0 60;p1 90;p0 10;");
+        Law law = Law.on("r3 2 10;t8,2,8,8,8,5;p0 60;p1 90;p0 10;");
         // 60 on 0: 30 of 20 on 1 breaks. On 3: 30 of 80 on 0 and 4.
         due("lives", law.lives(0, 0), 1);
         due("sinks", law.lives(0, 1), 0);
@@ -785,7 +785,7 @@ public final class PromisesTest {
         due("drowned, outside", law.lives(0, -1), OUTSIDE);
         due("not onto holes", law.lives(2, 0), 0);
         // The second of two who stand together drowns both: only the stepper is asked.
-        IceLaw other = Check.on("r3 1 10;t20,20,6;p1 60;p0 30;");
+        Law other = Law.on("r3 1 10;t20,20,6;p1 60;p0 30;");
         other.step(0, 2);
         other.step(1, 0);
         due("it breaks under the other", other.lives(1, 0), 2);
@@ -793,7 +793,7 @@ public final class PromisesTest {
     }
 
     private static void heard() {
-        IceLaw law = Check.on("r6 2 10;t8;p0 61;p1 61;p1 60;");
+        Law law = Law.on("r6 2 10;t8;p0 61;p1 61;p1 60;");
         due("nothing", law.heard(0), NONE);
         law.step(2, 11);
         due("60 of 80 is no crack", law.told(9), 0);
@@ -813,21 +813,21 @@ public final class PromisesTest {
         due("a hole", law.heard(1), NONE);
         due("cut off", law.heard(6), 0);
         due("no cell", law.heard(12), UNKNOWN);
-        IceLaw like = Check.on("r3 1 10;t8;p0 61;p1 61;");
+        Law like = Law.on("r3 1 10;t8;p0 61;p1 61;");
         like.step(0, 0);
         like.salt(0, 1, 1);
         like.step(1, 2);
         due("61 of 70 cracks", like.told(9), 7);
         like.night(1);
         due("itself first", like.heard(1), 1);
-        IceLaw least = Check.on("r3 1 10;t8,20,8;p0 61;p1 61;");
+        Law least = Law.on("r3 1 10;t8,20,8;p0 61;p1 61;");
         least.step(0, 0);
         least.step(1, 2);
         due("least of like ones", least.heard(1), 0);
     }
 
     private static void game() {
-        IceLaw law = new IceLaw();
+        Law law = new Law();
         due("mixed", law.game(5, 1, 2, 4, 0), 333333);
         due("mixed worth", law.game(5, 1, 2, 4, 1), 3000);
         due("mixed, the other way", law.game(1, 5, 4, 2, 0), 333333);
@@ -854,7 +854,7 @@ public final class PromisesTest {
     }
 
     private static void tolls() {
-        IceLaw law = Check.on("r2 3 10;t0,0,5,0,5,0;p0 10;");
+        Law law = Law.on("r2 3 10;t0,0,5,0,5,0;p0 10;");
         due("nobody's", law.tolls(9, 9), 0);
         law.salt(1, 2, 60);
         due("two rows", law.tolls(9, 8), 144);
@@ -871,7 +871,7 @@ public final class PromisesTest {
     }
 
     private static void thaw() {
-        IceLaw law = new IceLaw();
+        Law law = new Law();
         due("none", law.thaw(0, 100), 1000000);
         due("sure", law.thaw(60, 0), 1000000);
         due("never", law.thaw(1, 100), 0);
@@ -887,7 +887,7 @@ public final class PromisesTest {
     // ---- what is seen
 
     private static void see() {
-        IceLaw law = new IceLaw();
+        Law law = new Law();
         due("outside", law.see(0, true), OUTSIDE);
         due("outside", law.see(61, true), OUTSIDE);
         for (int k = 1; k <= 6; k++) {
@@ -899,7 +899,7 @@ public final class PromisesTest {
     }
 
     private static void who() {
-        IceLaw law = Check.on("r2 1 10;p0 30;p0 40;p1 50;");
+        Law law = Law.on("r2 1 10;p0 30;p0 40;p1 50;");
         due("all", law.who(0), 8);
         due("all", law.who(1), 0);
         due("all", law.who(2), 0);
@@ -924,7 +924,7 @@ public final class PromisesTest {
     }
 
     private static void ask() {
-        IceLaw law = Check.on("r2 1 10;p0 30;p0 40;p1 50;");
+        Law law = Law.on("r2 1 10;p0 30;p0 40;p1 50;");
         // Weights 0, 30, 40, 70, 50, 80, 90, 120: four of eight above 50.
         due("ask", law.ask(), 5);
         law.see(5, true);
@@ -937,16 +937,16 @@ public final class PromisesTest {
         due("one is left", law.ask(), NONE);
         law.see(1, false);
         due("none is left", law.ask(), NONE);
-        due("alike", Check.on("r2 1 30;p0 1;p1 2;").ask(), NONE);
-        due("nobody", Check.on("r2 1 30;").ask(), NONE);
-        due("t of 1", Check.on("r2 1 3;p0 181;").ask(), 1);
-        IceLaw last = Check.on("r2 1 3;p0 178;p1 181;");
+        due("alike", Law.on("r2 1 30;p0 1;p1 2;").ask(), NONE);
+        due("nobody", Law.on("r2 1 30;").ask(), NONE);
+        due("t of 1", Law.on("r2 1 3;p0 181;").ask(), 1);
+        Law last = Law.on("r2 1 3;p0 178;p1 181;");
         last.see(59, true);
         due("t of 60", last.ask(), 60);
     }
 
     private static void write() {
-        IceLaw law = Check.on(PLAIN);
+        Law law = Law.on(PLAIN);
         due("no cell", law.write(6, 61), UNKNOWN);
         due("outside", law.write(0, 61), OUTSIDE);
         due("outside", law.write(0, -1), OUTSIDE);
@@ -960,7 +960,7 @@ public final class PromisesTest {
     }
 
     private static void tear() {
-        IceLaw law = Check.on(PLAIN);
+        Law law = Law.on(PLAIN);
         law.see(1, true);
         law.write(0, 1);
         law.write(0, 2);
@@ -972,7 +972,7 @@ public final class PromisesTest {
     }
 
     private static void judge() {
-        IceLaw law = Check.on(PLAIN);
+        Law law = Law.on(PLAIN);
         due("no book", law.judge(), NONE);
         law.write(0, 8);
         law.write(1, 8);
@@ -989,11 +989,11 @@ public final class PromisesTest {
     // ---- draws, images
 
     private static void seed() {
-        IceLaw law = new IceLaw();
+        Law law = new Law();
         due("first", law.seed(2147483647), 0);
         due("outside", law.seed(-1), OUTSIDE);
         due("was", law.seed(3), 2147483647);
-        IceLaw drawn = Check.on("r2 1 1;");
+        Law drawn = Law.on("r2 1 1;");
         drawn.seed(2147483647);
         drawn.drift(1);
         // (2147483647 * 1103515245 + 12345) mod 2^31 = 1043980748, / 65536 = 15929, mod 4 = 1: one draw
@@ -1001,7 +1001,7 @@ public final class PromisesTest {
     }
 
     private static void keepAndGoBack() {
-        IceLaw law = Check.on("r3 1 10;t8;n12,7;p0 60;p1 90;");
+        Law law = Law.on("r3 1 10;t8;n12,7;p0 60;p1 90;");
         due("not kept", law.goBack(0), NOT);
         due("keep(2)", law.keep(2), UNKNOWN);
         due("keep(-1)", law.keep(-1), UNKNOWN);
@@ -1040,7 +1040,7 @@ public final class PromisesTest {
     }
 
     private static void noRiver() {
-        IceLaw law = new IceLaw();
+        Law law = new Law();
         due("cell", law.cell(0, 9), UNKNOWN);
         due("person", law.person(0, 9), UNKNOWN);
         due("step", law.step(0, NONE), UNKNOWN);

@@ -3,6 +3,7 @@ import java.lang.reflect.Constructor;
 import java.lang.reflect.Field;
 import java.lang.reflect.Method;
 import java.lang.reflect.Modifier;
+import java.nio.file.DirectoryStream;
 import java.nio.file.Files;
 import java.nio.file.Path;
 import java.util.Set;
@@ -23,7 +24,9 @@ public final class RulesTest {
     public static void main(String[] args) throws IOException {
         face();
         nested();
-        source(Files.readString(Path.of(System.getProperty("icelaw.root", "."), "src/main/java/IceLaw.java")));
+        Path root = Path.of(System.getProperty("icelaw.root", "."));
+        source(Files.readString(root.resolve("src/main/java/IceLaw.java")));
+        counted(root.resolve("src/test/java"));
         Check.end("RulesTest");
     }
 
@@ -97,6 +100,16 @@ public final class RulesTest {
             }
         }
         same("at most twenty fields in " + of, own <= 20, true);
+    }
+
+    /** No test asks an object behind its 512th call: Law counts, and no test goes around it. */
+    private static void counted(Path tests) throws IOException {
+        try (DirectoryStream<Path> files = Files.newDirectoryStream(tests, "*.java")) {
+            for (Path file : files) {
+                boolean makes = Pattern.compile("new Ice" + "Law\\(\\)(?!;\")").matcher(Files.readString(file)).find();
+                same(file.getFileName() + " makes objects of the class", makes, file.endsWith("Law.java"));
+            }
+        }
     }
 
     private static void source(String text) {
