@@ -112,6 +112,16 @@ public final class RulesTest {
         }
     }
 
+    /** Of the library only what rule 4 lists (and the class uses), and no texts, so that none is joined by +. */
+    private static void library(String code) {
+        Set<String> allowed = Set.of("Math.max", "Math.min", "Math.abs", "Integer.bitCount", "Arrays.fill");
+        Matcher used = Pattern.compile("(?<![\\w.])[A-Z]\\w*[a-z]\\w*\\.\\w+").matcher(code.replaceAll("import [^;]+;", ""));
+        while (used.find()) {
+            same(used.group() + " is allowed", allowed.contains(used.group()), true);
+        }
+        same("no texts", code.contains("\"") || code.contains("String"), false);
+    }
+
     private static void source(String text) {
         String code = text.replaceAll("(?s)/\\*.*?\\*/", "").replaceAll("//[^\n]*", "");
         Matcher banned = Pattern.compile("\\b(throw|throws|try|catch|synchronized|assert|package|Exact)\\b|->|::|Exact\\(").matcher(code);
@@ -120,6 +130,7 @@ public final class RulesTest {
         while (imports.find()) {
             same("import", imports.group(1), "java.util.Arrays");
         }
+        library(code);
         same("signs 1 to 127", text.chars().allMatch(sign -> sign > 0 && sign < 128), true);
         int from = -1;
         String[] lines = text.split("\n");
